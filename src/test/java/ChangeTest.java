@@ -211,6 +211,18 @@ public final class ChangeTest {
         CHECK.due("undo() of it", still.undo(), 2);
         CHECK.due("ticks", still.count(7), 1);
         CHECK.due("still down", still.link(0, 0, 2), 0);
+        BundledLinks old = Check.laid("l1,1,1,1;l1,1,1,1;l1,1,1,1;m6,0,5;");
+        old.tick(5);
+        old.mute(1, 1, 1);
+        old.tick(2);
+        old.plug(0, 0);
+        old.tick(1);
+        String aging = Check.all(old);
+        CHECK.due("AGE", old.link(0, 1, 3), 2);
+        CHECK.due("HELD", old.flow(0, 0, 1), 5);
+        old.tick(3);
+        old.undo();
+        CHECK.same("AGE and HELD are undone too", Check.all(old), aging);
         BundledLinks y = new BundledLinks();
         y.tick(1);
         y.undo();

@@ -11,7 +11,9 @@ public final class LookTest {
         asInTheLastTick();
         frames();
         agreed();
+        agreedIsOfThoseThatSend();
         settled();
+        settledAtEachEnd();
         settledChangesNothing();
         counts();
         CHECK.end();
@@ -138,7 +140,10 @@ public final class LookTest {
         x.tick(9);
         CHECK.due("frames stay over ticks", x.frames(0, 3), 8);
         x.lay();
-        CHECK.due("frames since LAID", x.frames(0, 3), 0);
+        for (int l = 0; l < 6; l++) {
+            CHECK.due("frames since LAID", x.frames(0, l), 0);
+            CHECK.due("frames since LAID", x.frames(1, l), 0);
+        }
     }
 
     private static void agreed() {
@@ -157,6 +162,24 @@ public final class LookTest {
         CHECK.due("not agreed", x.agreed(), 0);
         CHECK.due("none sends", x.tick(1), 0);
         CHECK.due("sending at end 0", x.bundle(0, 2), 0);
+    }
+
+    /** The decider e drops link 0 and takes it again while the other end hears nothing of it. */
+    private static void agreedIsOfThoseThatSend() {
+        for (int e = 0; e < 2; e++) {
+            BundledLinks x = Check.laid("l1,1,1,1;l1,2,1,2;m1,1,0;" + (e == 0 ? "x4,5;" : "x5,4;"));
+            CHECK.due("agreed", x.tick(6), 1);
+            x.mute(e, 0, 1);
+            CHECK.due("agreed", x.tick(1), 1);
+            x.tell(e, 0, 1, 5);
+            CHECK.due("not agreed", x.tick(1), 0);
+            x.tell(e, 0, 1, 1);
+            CHECK.due("chosen is not enough", x.tick(1), 0);
+            CHECK.due("chosen", x.bundle(e, 1), 1);
+            CHECK.due("sending", x.bundle(e, 2), 0);
+            CHECK.due("sending at the other end", x.bundle(1 - e, 2), 1);
+            CHECK.due("not agreed", x.agreed(), 0);
+        }
     }
 
     private static void settled() {
@@ -191,6 +214,19 @@ public final class LookTest {
         x.mute(1, 0, 1);
         x.tick(1);
         CHECK.due("end 1 changes later than end 0", x.settled(), 4);
+    }
+
+    private static void settledAtEachEnd() {
+        for (int e = 0; e < 2; e++) {
+            BundledLinks x = Check.laid("l1,1,1,1;l1,1,1,1;m1,0,0;");
+            x.mute(e, 1, 1);
+            x.tick(9);
+            CHECK.due("settled()", x.settled(), 0);
+            CHECK.due("alone at one end", x.link(1 - e, 1, 2), 1);
+            CHECK.due("spare at the other", x.link(e, 1, 2), 2);
+            x.mute(1 - e, 1, 1);
+            CHECK.due("one end alone changes", x.settled(), 4);
+        }
     }
 
     private static void settledChangesNothing() {
