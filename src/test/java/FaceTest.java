@@ -26,6 +26,9 @@ public final class FaceTest {
         members();
         namesAreNotTakenTwice();
         source();
+        library();
+        staticFields();
+        shortMethods();
         callsMakeNothing();
         CHECK.end();
     }
@@ -82,9 +85,14 @@ public final class FaceTest {
         }
     }
 
-    private static void source() throws Exception {
-        String code = Files.readString(Path.of("src/main/java/BundledLinks.java"))
+    /** The class without its comments and texts. */
+    private static String code() throws Exception {
+        return Files.readString(Path.of("src/main/java/BundledLinks.java"))
                 .replaceAll("(?s)/\\*.*?\\*/", "").replaceAll("//[^\n]*", "").replaceAll("\"[^\"]*\"", "\"\"");
+    }
+
+    private static void source() throws Exception {
+        String code = code();
         Matcher banned = Pattern.compile("\\b(throw|throws|try|catch|finally|synchronized|assert|import|package|"
                 + "protected|volatile|transient|native|hashCode|toString|getClass|System|Thread|Object|"
                 + "equals|var|yield|Exact)\\b|->|::|@").matcher(code);
@@ -92,6 +100,66 @@ public final class FaceTest {
             CHECK.holds("no '" + banned.group() + "' in the class", false);
         }
         CHECK.holds("plain signs alone", code.chars().allMatch(c -> c == '\n' || (c >= 32 && c < 127)));
+    }
+
+    /** Rules 3 and 4: no class but its own, String and Math; of Math no more than min. */
+    private static void library() throws Exception {
+        String code = code();
+        Set<String> names = new TreeSet<>();
+        for (Class<?> inside : BundledLinks.class.getDeclaredClasses()) {
+            names.add(inside.getSimpleName());
+        }
+        names.addAll(Arrays.asList("BundledLinks", "String", "Math"));
+        Matcher name = Pattern.compile("\\b[A-Z]\\w*[a-z]\\w*\\b").matcher(code);
+        while (name.find()) {
+            CHECK.holds(name.group() + " is a class that may be used", names.contains(name.group()));
+        }
+        Matcher math = Pattern.compile("Math\\.(\\w+)").matcher(code);
+        while (math.find()) {
+            CHECK.same("of Math", math.group(1), "min");
+        }
+        CHECK.holds("arrays have one dimension", !code.contains("[][]") && !code.contains("] ["));
+        CHECK.holds("no casts", !Pattern.compile("\\((int|long|short|byte|char|[A-Z]\\w*)\\) ?\\w").matcher(code).find());
+    }
+
+    /** Rule 5: constants alone. */
+    private static void staticFields() {
+        staticFieldsOf(BundledLinks.class);
+        for (Class<?> inside : BundledLinks.class.getDeclaredClasses()) {
+            staticFieldsOf(inside);
+        }
+    }
+
+    private static void staticFieldsOf(Class<?> c) {
+        for (Field f : c.getDeclaredFields()) {
+            if (Modifier.isStatic(f.getModifiers()) && !f.isSynthetic()) {
+                CHECK.holds(f + " is final", Modifier.isFinal(f.getModifiers()));
+                CHECK.holds(f + " is a plain constant", f.getType().isPrimitive() || f.getType() == String.class);
+            }
+        }
+    }
+
+    /** Rule 11: a method begins at a line that ends its head with {, and ends at the } of the same depth. */
+    private static void shortMethods() throws Exception {
+        Pattern head = Pattern.compile("( {4}| {8})(?! )[\\w\\[\\] ]+\\(.*\\) \\{");
+        String indent = null;
+        String name = "";
+        int length = 0;
+        int methods = 0;
+        for (String line : code().split("\n")) {
+            Matcher begins = head.matcher(line);
+            length++;
+            if (indent == null && begins.matches()) {
+                indent = begins.group(1);
+                name = line.trim();
+                length = 1;
+            } else if (indent != null && line.equals(indent + "}")) {
+                CHECK.holds(name + " has sixty lines at most", length <= 60);
+                indent = null;
+                methods++;
+            }
+        }
+        CHECK.holds("methods are found: " + methods, methods > 60);
     }
 
     /** Rows are made in the constructor and used again: 512 of the dearest calls make no objects. */

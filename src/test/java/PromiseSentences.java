@@ -72,7 +72,8 @@ final class PromiseSentences {
     private void wipe() {
         s.of("Promise 3", "THE TEXT is empty: how long it was.");
         Run x = s.first().calls("wipe() = 0; write(108); wipe() = 1; count(9) = 0; fault() = NONE; wipe() = 0");
-        x.type("x1,2;l1").calls("wipe() = 7").type("l").calls("fault() = 0; count(9) = 1; wipe() = 1").type("l1,2,3,").calls("wipe() = 7");
+        x.type("x1,2;l1").calls("wipe() = 7").type("l").calls("fault() = 0; count(9) = 1; wipe() = 1");
+        x.type("l1,2,3,").calls("wipe() = 7");
         x.type("l1,2,3").calls("fault() = 0; wipe() = 6").type(LIKE).calls("lay() = 1; wipe() = 9; count(0) = 1");
         x.calls("lay() = NO");
         s.first().type("l".repeat(200)).calls("wipe() = 200; wipe() = 0");
@@ -93,7 +94,8 @@ final class PromiseSentences {
             s.first().type(LIKE.repeat(links)).calls("lay() = %1$d; count(0) = %1$d; count(1) = %1$d", links);
             s.laid(LIKE.repeat(6)).calls("wipe()").type(LIKE.repeat(links)).calls("lay() = %1$d; count(0) = %1$d", links);
         }
-        s.first().calls("lay() = NO").type("x1,2;").calls("lay() = NO").type(LIKE).calls("lay() = 1").type("q").calls("lay() = NO");
+        s.first().calls("lay() = NO").type("x1,2;").calls("lay() = NO").type(LIKE).calls("lay() = 1").type("q")
+                .calls("lay() = NO");
         s.first().type(LIKE.repeat(7)).calls("lay() = NO; count(0) = 5");
     }
 

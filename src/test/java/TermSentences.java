@@ -280,7 +280,7 @@ final class TermSentences {
         s.fault(LIKE.repeat(6) + "l", "54");
         for (char letter = 32; letter < 127; letter++) {
             for (int numbers = 0; numbers <= 5; numbers++) {
-                boolean isSo = letter == 'l' && numbers == 4 || letter == 'x' && numbers == 2 || letter == 'm' && numbers == 3;
+                boolean isSo = numbers == (letter == 'l' ? 4 : letter == 'x' ? 2 : letter == 'm' ? 3 : -1);
                 String item = letter + (numbers == 0 ? "" : "1" + ",1".repeat(numbers - 1)) + ";";
                 s.fault(item, isSo ? "NONE" : "0");
                 s.fault("m1,1,1;" + item + "x1,1;", isSo ? "NONE" : "7");

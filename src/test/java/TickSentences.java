@@ -417,6 +417,9 @@ final class TickSentences {
         x.calls("agreed() = 1");
         x.calls("link(0,0,6) = 5; tick(1); bundle(1,1) = 4; bundle(0,1) = 2; link(0,0,6) = 5; tick(1)");
         x.calls("bundle(0,1) = 4");
+        x = s.laid(THREE + "x5,4;").calls("tick(5); set(0,3); count(2) = 3; bundle(0,1) = 4; bundle(1,1) = 4");
+        x.calls("link(0,1,2) = 2; link(0,2,2) = 5; agreed() = 1; link(1,0,6) = 5; tick(1); bundle(0,1) = 2");
+        x.calls("bundle(1,1) = 4; tick(1); bundle(1,1) = 2");
         s.laid(TWO).calls("tick(5); set(2,1)").calls(looks).calls("tick(1) = 1; bundle(0,1) = 1; bundle(1,1) = 1");
     }
 
