@@ -121,10 +121,12 @@ final class ChangeSentences {
 
     private void settledAsTicksTell(int seed) {
         Random random = new Random(seed);
-        Run x = s.laid(LIKE.repeat(3) + "m" + (1 + seed % 3) + "," + seed % 10 + "," + random.nextInt(10) + ";");
+        int links = 3 + seed % 4;
+        Run x = s.laid(LIKE.repeat(links) + "m" + links + "," + seed % 10 + "," + random.nextInt(10) + ";");
         for (int i = 0; i < 10; i++) {
-            x.calls("mute(%d,%d,%d); tick(%d)", i % 2, random.nextInt(3), random.nextInt(2), 1 + random.nextInt(9));
-            x.calls("tell(%d,%d,1,%d); set(2,%d)", i % 2, random.nextInt(3), random.nextInt(3), 1 + random.nextInt(3));
+            x.calls("mute(%d,%d,%d); tick(%d)", i % 2, random.nextInt(links), random.nextInt(2), 1 + random.nextInt(9));
+            x.calls("plug(%d,%d); tick(%d)", random.nextInt(links), i % 2, 1 + random.nextInt(3));
+            x.calls("tell(%d,%d,1,%d); set(2,%d)", i % 2, random.nextInt(links), i % 3, 1 + random.nextInt(links));
         }
         int told = x.x.settled();
         String[] seen = new String[47];
@@ -174,9 +176,34 @@ final class ChangeSentences {
                 s.laid(text).calls("tick(9); mute(%d,0,1); settled() = %d", e, drain <= 7 ? 5 + drain : 5);
             }
         }
+        settledByOneFlow();
         for (int e = 0; e < 2; e++) {
             Run x = s.laid(LIKE.repeat(2) + "m1,0,0;").calls("mute(%d,1,1); tick(9); settled() = 0", e);
             x.calls("mute(%d,1,1)", 1 - e).calls("settled() = 4; tick(3); settled() = 1; tick(1); settled() = 0");
+        }
+    }
+
+    /** Runs behind which one FLOW alone, by its place here, is HELD at both ENDS: all else stays. */
+    private static final String[][] ONE_FLOW_MOVES = {
+        {LIKE.repeat(5) + "m5,0,1;", "tick(3); plug(4,0); tick(1); set(2,1); tick(1)", "3", "0"},
+        {LIKE.repeat(4) + "m4,0,1;", "tick(3); plug(0,0); tick(1); set(2,1); tick(1)", "2", "1"},
+        {LIKE.repeat(3) + "m3,0,1;", "tick(3); plug(0,0); tick(1); set(2,1); tick(1)", "2", "1"},
+        {LIKE.repeat(3) + "m3,0,1;", "tick(3); plug(1,0); tick(1); plug(0,0); tick(1)", "0", "2"},
+        {LIKE.repeat(3) + "m3,0,1;", "tick(3); plug(2,0); tick(1); set(2,1); tick(1)", "1", "0"},
+        {LIKE.repeat(4) + "m4,0,1;", "tick(3); plug(3,0); tick(1); set(2,1); tick(1)", "2", "0"},
+        {LIKE.repeat(4) + "m4,0,1;", "tick(3); plug(0,0); tick(1); plug(1,0); tick(1)", "1", "3"},
+        {LIKE.repeat(5) + "m2,0,1;", "tick(3); set(2,5); tick(1); plug(1,0); tick(1); plug(2,0); tick(1)", "0", "3"},
+    };
+
+    private void settledByOneFlow() {
+        for (int f = 0; f < 8; f++) {
+            String[] row = ONE_FLOW_MOVES[f];
+            Run x = s.laid(row[0]).calls(row[1]);
+            for (int other = 0; other < 8; other++) {
+                x.calls("flow(0,%1$d,1) = %2$d; flow(1,%1$d,1) = %2$d", other, other == f ? 1 : 0);
+            }
+            x.calls("settled() = 1; flow(0,%1$d,0) = %2$s; tick(1); flow(0,%1$d,0) = %3$s", f, row[2], row[3]);
+            x.calls("settled() = 0");
         }
     }
 
